@@ -190,11 +190,12 @@ public final class NobodyThere {
     }
 
     public int shoot() {
-        if (now.shotCount >= SHOT_ROOM) {
+        Shot next = now.nextShot();
+        if (next == null) {
             return NONE;
         }
         kept.keep(now);
-        return now.takeShot();
+        return now.take(next);
     }
 
     public int of(int walker, int what) {
@@ -832,23 +833,9 @@ public final class NobodyThere {
         }
 
         private boolean readTest(int open) {
-            if (kind != NOT && kind != '(') {
-                return readComparison();
+            if (kind == NOT || kind == '(') {
+                return open < OPEN_ROOM ? readOpened(open + 1) : fail(FAULT_TOO_MANY);
             }
-            if (open >= OPEN_ROOM) {
-                return fail(FAULT_TOO_MANY);
-            }
-            boolean negates = kind == NOT;
-            advance();
-            if (!negates) {
-                return readEither(open + 1) && pass(')');
-            }
-            boolean right = readTest(open + 1);
-            law.add(NOT, 0);
-            return right;
-        }
-
-        private boolean readComparison() {
             if (!readSum()) {
                 return false;
             }
@@ -862,6 +849,17 @@ public final class NobodyThere {
             return right;
         }
 
+        private boolean readOpened(int open) {
+            boolean negates = kind == NOT;
+            advance();
+            if (!negates) {
+                return readEither(open) && pass(')');
+            }
+            boolean right = readTest(open);
+            law.add(NOT, 0);
+            return right;
+        }
+
         /** E with its T; a + or - waits until its T has ended. */
         private boolean readSum() {
             int waits = END;
@@ -870,7 +868,9 @@ public final class NobodyThere {
                 int sign = kind;
                 advance();
                 if (sign == '/') {
-                    right = readDivisor();
+                    int by = readNumber(1, 9999);
+                    law.add('/', by);
+                    right = by != NONE;
                 } else if (sign == '*') {
                     right = readUnit();
                     law.add('*', 0);
@@ -892,12 +892,6 @@ public final class NobodyThere {
             if (sign != END) {
                 law.add(sign, 0);
             }
-        }
-
-        private boolean readDivisor() {
-            int by = readNumber(1, 9999);
-            law.add('/', by);
-            return by != NONE;
         }
 
         private boolean readUnit() {
@@ -1406,8 +1400,11 @@ public final class NobodyThere {
             return comes;
         }
 
-        int takeShot() {
-            Shot next = shots[shotCount];
+        Shot nextShot() {
+            return shotCount < SHOT_ROOM ? shots[shotCount] : null;
+        }
+
+        int take(Shot next) {
             next.minute = minute;
             next.aside = aside;
             next.wide = wide;
