@@ -399,17 +399,8 @@ public final class NobodyThere {
         if (!now.isSpot(spot) || v < 0 || v > 99) {
             return NONE;
         }
-        int count = 0;
-        int first = NONE;
-        int last = NONE;
-        for (int m = 0; m <= LAST_MINUTE; m++) {
-            if (now.shadeOf(spot, m) == v) {
-                count++;
-                first = first == NONE ? m : first;
-                last = m;
-            }
-        }
-        return oneOf(what, count, first, last, NONE);
+        thought.findHours(spot, v);
+        return thought.found(what, NONE);
     }
 
     public int judged(int shot, int m) {
@@ -419,20 +410,11 @@ public final class NobodyThere {
 
     public int whenShot(int shot, int what) {
         Shot by = now.shotOf(shot);
-        if (by == null || what < 0 || what > 2) {
+        if (by == null) {
             return NO_SUCH;
         }
-        int count = 0;
-        int first = NONE;
-        int last = NONE;
-        for (int m = 0; m <= LAST_MINUTE; m++) {
-            if (thought.firstUnlike(by, m) == NONE) {
-                count++;
-                first = first == NONE ? m : first;
-                last = m;
-            }
-        }
-        return oneOf(what, count, first, last, NO_SUCH);
+        thought.findAlike(by);
+        return thought.found(what, NO_SUCH);
     }
 
     public int stander(int what) {
@@ -820,7 +802,6 @@ public final class NobodyThere {
                 }
                 if (orWaits && kind != AND) {
                     law.add(OR, 0);
-                    orWaits = false;
                 }
                 if (kind != AND && kind != OR) {
                     return true;
@@ -1554,9 +1535,43 @@ public final class NobodyThere {
         final int[] counts = new int[SPOT_ROOM];
         final long[] hidden = new long[MOST_WAITED + 1];
         final int[] chances = new int[MOST_COPIES + 1];
+        int foundCount;
+        int foundFirst;
+        int foundLast;
 
         Thought(Bridge now) {
             this.now = now;
+        }
+
+        /** Minutes in which a spot has a shade. */
+        void findHours(int c, int shade) {
+            foundCount = 0;
+            for (int m = 0; m <= LAST_MINUTE; m++) {
+                if (now.shadeOf(c, m) == shade) {
+                    find(m);
+                }
+            }
+        }
+
+        /** Minutes by whose shades a shot may have been taken. */
+        void findAlike(Shot by) {
+            foundCount = 0;
+            for (int m = 0; m <= LAST_MINUTE; m++) {
+                if (firstUnlike(by, m) == NONE) {
+                    find(m);
+                }
+            }
+        }
+
+        private void find(int m) {
+            foundFirst = foundCount == 0 ? m : foundFirst;
+            foundLast = m;
+            foundCount++;
+        }
+
+        int found(int what, int none) {
+            boolean any = foundCount > 0;
+            return oneOf(what, foundCount, any ? foundFirst : NONE, any ? foundLast : NONE, none);
         }
 
         int firstFree() {

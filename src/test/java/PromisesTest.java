@@ -341,6 +341,10 @@ public final class PromisesTest {
         due.same("=", shade("shade 1 when 3=2;shade 2 when 2=2;", 0, 0), 2);
         due.same("ints wrap", shade("shade 1 when 9999*9999*9999>0;shade 2;", 0, 0), 2);
         due.same("what wrapped is divided towards 0", shade("shade 8 when 0-9999*9999*9999/9999=9999*10+2755;", 0, 0), 8);
+        due.same("tests of all kinds", shade("shade 1 when 1=1 and 1<2 and 3>2 and not 1=2 and (1=1 or 2=1);", 0, 0), 1);
+        due.same("of which one is not so", shade("shade 1 when 1=1 and 1<2 and 3>2 and not 1=1 and 1=1;", 0, 0), 50);
+        due.same("a part by 1", shade("shade 7/1;", 0, 0), 7);
+        due.same("a full tape", shade("shade 1" + "+1*1-1".repeat(65) + "+1;", 0, 0), 2);
         NobodyThere x = new NobodyThere();
         due.same("sixteen lines", Due.tell(x, 2, "worth 1;".repeat(16)), 16);
         due.same("eight open", Due.tell(x, 1, "shade 3 when " + "(".repeat(8) + "1=1" + ")".repeat(8) + ";"), 1);
@@ -445,6 +449,17 @@ public final class PromisesTest {
         faulty(1, "Shade 1;", 1, 0);
         faulty(1, "shadE 1;", 1, 0);
         faulty(1, "shadeX 1;", 1, 0);
+        faulty(1, "shadeA 1;", 1, 0);
+        faulty(1, "shadeZ 1;", 1, 0);
+        faulty(1, "shadea 1;", 1, 0);
+        faulty(1, "shadez 1;", 1, 0);
+        faulty(1, "shade[1;", 1, 5);
+        faulty(1, "shade@1;", 1, 5);
+        faulty(1, "shade`1;", 1, 5);
+        faulty(1, "shade{1;", 1, 5);
+        faulty(1, "shade 1:", 1, 7);
+        faulty(0, ";".repeat(400), 1, 0);
+        faulty(1, "shade 1" + "+1".repeat(196) + " ", 1, 400);
         faulty(1, "shade xy;", 1, 6);
         faulty(1, "shade x y;", 1, 8);
         faulty(1, "shade x2;", 1, 7);
@@ -910,6 +925,19 @@ public final class PromisesTest {
         due.same("two are enough", x.fewest(0), 2);
         due.same("shots 1 and 2", x.fewest(1), 6);
         due.same("greedy takes three", x.fewest(2), 3);
+        // of three that lay as many the least is taken, though another would have done better
+        NobodyThere y = new NobodyThere();
+        y.bridge(6, 2);
+        y.set(0, 3);
+        y.step(1);
+        y.shoot();
+        y.step(0);
+        y.shoot();
+        y.step(3);
+        y.shoot();
+        y.set(0, 6);
+        due.same("greedy takes the least of several", y.fewest(2), 3);
+        due.same("two are enough", y.fewest(1), 6);
         x.set(0, 4);
         x.step(1);
         due.same("of the view now: one", x.fewest(0), 1);
@@ -974,7 +1002,17 @@ public final class PromisesTest {
         x.shoot();
         due.same("one of five has it", x.middle(31, 5), 25);
         due.same("four of five have it", x.middle(31, 0), 20);
-        due.same("like ones", x.middle(17, 4), 24);
+        Due.tell(x, 1, "shade 26;");
+        x.shoot();
+        due.same("one apart", x.middle(48, 5), 25);
+        Due.tell(x, 1, "shade 0;");
+        x.shoot();
+        due.same("none less than 0", x.middle(64, 5), 0);
+        due.same("none less than 0", x.middle(96, 5), 0);
+        Due.tell(x, 1, "shade 25;");
+        x.shoot();
+        due.same("of three, one apart", x.middle(32 + 128 + 64, 5), 25);
+        due.same("the lesser one of 26 and 25", x.middle(32 + 128, 5), 25);
     }
 
     private static void p29Sure() {
@@ -1004,6 +1042,8 @@ public final class PromisesTest {
         NobodyThere x = told(PAIR);
         due.same("minutes", x.exposed(2, 8, 8, 0), 3);
         due.same("the mean goes downwards", x.exposed(2, 8, 8, 1), (3 * 30 + 4 * 50) / 7);
+        due.same("a and b count", x.exposed(2, 4, 8, 0), 3);
+        due.same("a and b count", x.exposed(4, 5, 8, 0), 1);
         due.same("one minute", x.exposed(2, 2, 8, 1), 30);
         due.same("all minutes", x.exposed(0, 500, 8, 0), 3);
         due.same("a spot outside the view too", x.set(0, 1) ? x.exposed(0, 8, 5, 0) : 0, 1);
@@ -1140,6 +1180,10 @@ public final class PromisesTest {
         due.same("another what", x.whenShot(0, -1), -2);
         due.same("no such shot", x.whenShot(1, 0), -2);
         due.same("no such shot", x.whenShot(-1, 0), -2);
+        Due.tell(x, 1, "shade 1;");
+        due.same("all minutes", x.whenShot(0, 0), 501);
+        due.same("from 0", x.whenShot(0, 1), 0);
+        due.same("to 500", x.whenShot(0, 2), 500);
         Due.tell(x, 1, "shade 70;");
         due.same("none", x.whenShot(0, 0), 0);
         due.same("none", x.whenShot(0, 1), -1);
@@ -1288,6 +1332,10 @@ public final class PromisesTest {
         due.same("walker 0 is on 1 in shot 1", x.picture(0), 1);
         due.same("holes", x.picture(1), 4);
         due.same("one shot, no seam", x.picture(2), 0);
+        x.paste(0, 0);
+        x.paste(1, -1);
+        due.same("walker 0 is on 0 in shot 0", x.picture(0), 1);
+        x.paste(0, 1);
         x.paste(1, 2);
         due.same("no feet", x.picture(0), 0);
         due.same("a seam", x.picture(2), 1);
@@ -1473,11 +1521,42 @@ public final class PromisesTest {
             x.state(1234);
             x.paste(1, 1);
         }
+        p45Shots();
         x.image(true);
         x.bridge(2, 2);
         x.image(false);
         due.same("a later one takes its place", x.look(2), 43);
         due.same("with its picture", x.picture(11), 1);
+    }
+
+    /** Shots taken on another bridge behind the image leave nothing in those of the image. */
+    private static void p45Shots() {
+        NobodyThere x = told(PAIR + "walker 4 comes 0 at 17 stand 9;");
+        x.set(0, 2);
+        x.minutes(1);
+        x.step(1);
+        x.shoot();
+        x.shoot();
+        x.paste(17, 1);
+        x.image(true);
+        x.bridge(8, 7);
+        x.minutes(9);
+        x.shoot();
+        x.shoot();
+        x.image(false);
+        for (int i = 0; i < 2; i++) {
+            due.same("minute", x.shot(i, 0), 1);
+            due.same("step", x.shot(i, 1), 1);
+            due.same("wide", x.shot(i, 2), 2);
+            due.same("covered", x.shot(i, 3), 2);
+            due.same("who", x.book(i, 17, 0), 2);
+            due.same("tone", x.book(i, 17, 1), 4);
+            due.same("who", x.book(i, 1, 0), 1);
+            due.same("nobody", x.book(i, 2, 0), -1);
+            due.same("not in its view", x.book(i, 0, 0), -2);
+            due.same("laid", x.laid(1 << i), Due.columns(1, 2, 4) - Due.spots(1, 17));
+        }
+        due.same("feet", x.picture(0), 4);
     }
 
     private static void p46Look() {
