@@ -1,5 +1,8 @@
 /** What the tests of the project share: counting wrong answers, and telling a text. */
 final class Due {
+    private static final int FACTOR = 1664525;
+    private static final int SUMMAND = 1013904223;
+
     private final String name;
     private int wrong;
     private int checks;
@@ -55,6 +58,39 @@ final class Due {
     static int tell(NobodyThere x, int k, String text) {
         feed(x, text);
         return x.text(k);
+    }
+
+    /** Lets minutes go by until it is minute m. */
+    static void waitUntil(NobodyThere x, int m) {
+        while (x.look(2) < m) {
+            x.minutes(Math.min(100, m - x.look(2)));
+        }
+    }
+
+    static int drawnState(int state) {
+        return state * FACTOR + SUMMAND;
+    }
+
+    /** The state from which a draw leads to that state. */
+    static int stateBefore(int after) {
+        int inverse = FACTOR;
+        for (int i = 0; i < 5; i++) {
+            inverse *= 2 - FACTOR * inverse;
+        }
+        return (after - SUMMAND) * inverse;
+    }
+
+    /** A state from which the next draw of 1000 is first, and the draw of size behind it is second. */
+    static int stateDrawing(int first, int second, int size) {
+        for (int high = first; high < 1 << 24; high += 1000) {
+            for (int low = 0; low < 256; low++) {
+                int state = high << 8 | low;
+                if ((drawnState(state) >>> 8) % size == second) {
+                    return stateBefore(state);
+                }
+            }
+        }
+        throw new IllegalStateException("no such state");
     }
 
     static long spots(int... all) {
