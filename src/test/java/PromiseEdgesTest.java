@@ -774,6 +774,16 @@ public final class PromiseEdgesTest {
         due.same("greedy", x.fewest(2), 1);
         due.same("laid", x.laid(1), Due.columns(0, 0, 2));
         due.same("laid", x.laid(3), -1);
+        x.set(0, 1);
+        x.step(1);
+        x.shoot();
+        x.set(0, 4);
+        x.shoot();
+        due.same("the third does it alone", x.fewest(1), 4);
+        due.same("greedy", x.fewest(2), 1);
+        x.undo();
+        due.same("without it", x.fewest(1), 3);
+        due.same("greedy", x.fewest(2), 2);
         due.part("25: NONE for another what");
         for (int what : new int[] {-1, 3, LEAST, MOST}) {
             due.same("fewest(" + what + ")", x.fewest(what), -1);
@@ -1319,6 +1329,7 @@ public final class PromiseEdgesTest {
         due.same("from one that has it not in view", x.picture(0), 2046);
         x.paste(55, 1);
         due.same("from one that has it", x.picture(0), 2046 + 2048);
+        feetByTheBook();
         due.part("43: HOLES of THE VIEW now: from none, or from one that has them not in VIEW");
         x = new NobodyThere();
         x.set(0, 2);
@@ -1333,6 +1344,22 @@ public final class PromiseEdgesTest {
         due.same("none of this view", x.picture(1), 12);
         due.part("43: SEAMS");
         seams();
+    }
+
+    private static void feetByTheBook() {
+        due.part("43: FEET, WALKERS by THE BOOK, whatever the TONES");
+        NobodyThere x = told(0, "walker 99 comes 1 at 0;walker 12 comes 1 at 1;walker 0 comes 1 at 2;walker 98 comes 1 at 0;");
+        x.set(3, 0);
+        x.set(2, 60);
+        strangerComes(x, 3);
+        x.shoot();
+        int[] feet = {1, 2, 4, 0, 0};
+        for (int c = 0; c < feet.length; c++) {
+            x.paste(c, 0);
+            due.same("feet on " + c, x.picture(0), feet[c]);
+            x.paste(c, -1);
+        }
+        due.same("the stranger is there", x.book(0, 3, 0), 12);
     }
 
     /** On eight by seven with two shots of all and one of a column: 9 from shot 0, a spot beside it from another. */
@@ -1579,6 +1606,7 @@ public final class PromiseEdgesTest {
         due.same("no more", x.minutes(1), -1);
         imageLeavesOut();
         imageOfLaws();
+        imageOfShots();
     }
 
     private static void imageLeavesOut() {
@@ -1653,6 +1681,34 @@ public final class PromiseEdgesTest {
         x.minutes(1);
         x.image(false);
         due.same("a later one takes its place", x.look(2), 1);
+    }
+
+    private static void imageOfShots() {
+        due.part("45: SHOTS of the image");
+        NobodyThere x = told(0, "walker 77 comes 7 at 3;walker 78 comes 7 at 4;walker 79 comes 7 at 5;");
+        x.minutes(7);
+        x.set(0, 3);
+        x.step(2);
+        x.shoot();
+        x.image(true);
+        for (int time = 0; time < 2; time++) {
+            x.bridge(8, 7);
+            x.minutes(9);
+            x.set(0, 5);
+            x.step(1);
+            x.shoot();
+            x.image(false);
+            int[] answers = {7, 2, 3, 2};
+            for (int what = 0; what < 4; what++) {
+                due.same("shot(0, " + what + ")", x.shot(0, what), answers[what]);
+            }
+            int[] who = {-2, -2, -1, 0, 1, -2};
+            int[] tones = {-2, -2, 50, 77, 78, -2};
+            for (int c = 0; c < who.length; c++) {
+                due.same("book(0, " + c + ", 0)", x.book(0, c, 0), who[c]);
+                due.same("book(0, " + c + ", 1)", x.book(0, c, 1), tones[c]);
+            }
+        }
     }
 
     private static void p46() {

@@ -30,6 +30,8 @@ public final class TermsEdgesTest {
         spotOfAWalker();
         partsOfAWay();
         partsOfALawMayBeLeftOut();
+        eitherAndBoth();
+        lessAlikeMore();
         lettersStandTogether();
         digitsStandTogether();
         eachByteBehindAKeyword();
@@ -462,6 +464,43 @@ public final class TermsEdgesTest {
             for (String sum : sums) {
                 NobodyThere x = told(1, "shade " + sum + test + ";");
                 due.same(sum + test, x.at(0, 0, 1), 12);
+            }
+        }
+    }
+
+    private static String test(boolean so) {
+        return so ? "3=3" : "3=4";
+    }
+
+    private static void eitherAndBoth() {
+        due.part("B = A {or A}.  A = C {and C}.  C = not C | ( B )");
+        for (int bits = 0; bits < 8; bits++) {
+            boolean a = (bits & 1) != 0;
+            boolean b = (bits & 2) != 0;
+            boolean c = (bits & 4) != 0;
+            String[] tests = {test(a), "not " + test(a), test(a) + " or " + test(b), test(a) + " and " + test(b),
+                test(a) + " or " + test(b) + " or " + test(c), test(a) + " and " + test(b) + " and " + test(c),
+                test(a) + " or " + test(b) + " and " + test(c), test(a) + " and " + test(b) + " or " + test(c),
+                "(" + test(a) + " or " + test(b) + ") and " + test(c), test(a) + " and (" + test(b) + " or " + test(c) + ")",
+                "not " + test(a) + " or " + test(b), "not (" + test(a) + " or " + test(b) + ")",
+                "not " + test(a) + " and " + test(b), "not (" + test(a) + " and " + test(b) + ")",
+                test(a) + " or not " + test(b) + " and not (" + test(c) + ")"};
+            boolean[] so = {a, !a, a || b, a && b, a || b || c, a && b && c, a || b && c, a && b || c, (a || b) && c,
+                a && (b || c), !a || b, !(a || b), !a && b, !(a && b), a || !b && !c};
+            for (int i = 0; i < tests.length; i++) {
+                shadeIs("shade 1 when " + tests[i] + ";shade 2;", so[i] ? 1 : 2);
+            }
+        }
+    }
+
+    private static void lessAlikeMore() {
+        due.part("C = E (< | = | >) E: one less, alike, one more");
+        String[] sums = {"0-9999*9999*21", "0-1", "0", "1", "9999", "9999*9999*21"};
+        for (int i = 0; i < sums.length; i++) {
+            for (int j = 0; j < sums.length; j++) {
+                shadeIs("shade 1 when " + sums[i] + "<" + sums[j] + ";shade 2;", i < j ? 1 : 2);
+                shadeIs("shade 1 when " + sums[i] + "=" + sums[j] + ";shade 2;", i == j ? 1 : 2);
+                shadeIs("shade 1 when " + sums[i] + ">" + sums[j] + ";shade 2;", i > j ? 1 : 2);
             }
         }
     }
